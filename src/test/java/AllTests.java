@@ -1,0 +1,3 @@
+public final class AllTests {
+    public static void main(String[] args) { System.out.println("none yet"); }
+}
