@@ -1,3 +1,21 @@
+/** Runs all tests of the project; its argument is the path of the source that they are about. */
 public final class AllTests {
-    public static void main(String[] args) { System.out.println("none yet"); }
+    private AllTests() { }
+
+    public static void main(String[] args) {
+        PartsTest.all();
+        TurningTest.all();
+        WatersTest.all();
+        ToldTest.all();
+        GearsTest.all();
+        LotTest.all();
+        TextsTest.all();
+        HostTest.all();
+        FaceTest.all();
+        LanguageTest.all(args.length > 0 ? args[0] : "src/main/java/TideWheels.java");
+        RandomRunsTest.all();
+        if (!Check.end()) {
+            System.exit(1);
+        }
+    }
 }
