@@ -243,11 +243,8 @@ public final class TideWheels {
             return BAD;
         }
         Sheet told = sheets[sheet];
-        if (told.isMissing()) {
-            return MISSING;
-        }
-        if (told.size > MOST_TOLD) {
-            return BAD;
+        if (!told.canTell()) {
+            return told.isMissing() ? MISSING : BAD;
         }
         switch (what) {
             case 0: return firstOtherwise(told, f);
@@ -263,11 +260,8 @@ public final class TideWheels {
             return BAD;
         }
         Sheet told = sheets[sheet];
-        if (told.isMissing()) {
-            return MISSING;
-        }
-        if (told.size > MOST_TOLD) {
-            return BAD;
+        if (!told.canTell()) {
+            return told.isMissing() ? MISSING : BAD;
         }
         think(wheel, f, n + 1);
         int fitting = 0;
@@ -376,7 +370,20 @@ public final class TideWheels {
     public int text() {
         int fault = tape.findFault();
         tape.size = 0;
-        return fault == NONE ? doClauses() : FAULT_BASE - fault;
+        if (fault != NONE) {
+            return FAULT_BASE - fault;
+        }
+        int done = 0;
+        int at = 0;
+        for (int i = 0; i < tape.clauses; i++) {
+            int word = tape.saidAt(at);
+            // Only a refusal is below 0.
+            if (doClause(word, at + 1) >= 0) {
+                done++;
+            }
+            at += 1 + numbersOf(word);
+        }
+        return done;
     }
 
     // ---- the image, the host
@@ -620,20 +627,6 @@ public final class TideWheels {
             level += thought.swing(t);
         }
         return level;
-    }
-
-    /** Does what the tape's text said, and counts the clauses that weren't refused. */
-    private int doClauses() {
-        int done = 0;
-        int at = 0;
-        for (int i = 0; i < tape.clauses; i++) {
-            int word = tape.saidAt(at);
-            if (doClause(word, at + 1) >= 0) {
-                done++;
-            }
-            at += 1 + numbersOf(word);
-        }
-        return done;
     }
 
     private int doClause(int word, int at) {
@@ -895,6 +888,10 @@ public final class TideWheels {
 
         boolean isMissing() {
             return sort == NONE;
+        }
+
+        boolean canTell() {
+            return !isMissing() && size <= MOST_TOLD;
         }
 
         void begin(int newSort, int newSize) {

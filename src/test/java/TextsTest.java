@@ -133,7 +133,8 @@ final class TextsTest {
             {"phase 0", 7}, {"phase 0 1 2", 10}, {"amp 0", 5}, {"amp 0 1 2", 8}, {"amp", 3}, {"am", 0},
             {"shaft -1", 6}, {"shaft 1,shaft 2", 7}, {"shaft\t1", 5}, {"shaft 1\r", 7}, {"\0shaft 1", 0},
             {"shaft 1\u00e9", 7}, {"shaft 99999;?", 6}, {"amp 0 12345 x", 6}, {"amp 0 ?", 6}, {"shaft 1;shaft 2 ?", 16},
-            {"kind 0 1", 0}, {"shaft 1;drop", 8}, {"shaft `", 6}, {"shaft {", 6}, {"shaft /", 6}, {"shaft :", 6},
+            {"kind 0 1", 0}, {"tart 0 0 0 0", 0},
+            {"pirt 0 0 0 0", 0}, {"pact 0 0 0 0", 0}, {"pare 0 0 0 0", 0}, {"year 0 9 9", 0}, {"imp 0 1", 0}, {"shaft 1;drop", 8}, {"shaft `", 6}, {"shaft {", 6}, {"shaft /", 6}, {"shaft :", 6},
             {"a;", 0}, {"`mp 0 1", 0}, {"am{ 0 1", 0}, {"shaft 1 ;;", 9},
         };
         for (Object[] row : rows) {

@@ -83,6 +83,16 @@ final class ToldTest {
         }
         x.set(0, 1, 401);
         tellsAre(x, 40, 0, NONE, NONE, NONE);
+        TideWheels high = new TideWheels();
+        high.part(0, 0, 5, 256);
+        high.gear(0, 8, 200);
+        sheetOf(high, 0, 0, 999L * 65536);
+        tellsAre(high, 40, 0, NONE, 999, NONE);
+        // No amp is 1000, and none is below 0.
+        sheetOf(high, 0, 0, 1000L * 65536);
+        tellsAre(high, 40, 0, NONE, NONE, NONE);
+        sheetOf(high, 0, 0, -65536);
+        tellsAre(high, 40, 0, NONE, NONE, NONE);
     }
 
     private static void wrongByKind() {
@@ -245,29 +255,42 @@ final class ToldTest {
 
     private static void refoundAmongOthers() {
         TideWheels x = three();
+        int third = x.water(400, 200, 0, 2);
         for (int part = 0; part < 3; part++) {
-            int phase = x.of(part, 3);
-            x.sheet(0, 0, 5);
-            for (int k = 0; k < 5; k++) {
-                x.put(0, k, x.water(50, 200, 0, k));
+            x.image();
+            refoundByHand(x, part, 400, 200, 5);
+            // The latest of those told is at the last tick of all, or the first one right behind f.
+            refoundByHand(x, part, 400, third - 400 + 1, 3);
+            refoundByHand(x, part, third - 199, 200, 1);
+            refoundByHand(x, part, third - 1, 30, 1);
+            for (int n = 2; n < 24; n++) {
+                refoundByHand(x, part, 100 + 7 * n, n, 1);
             }
-            int many = 0;
-            int least = NONE;
-            for (int p = 1023; p >= 0; p--) {
-                x.set(part, 2, p);
-                boolean fits = true;
-                for (int k = 0; k < 5 && fits; k++) {
-                    fits = x.water(50, 200, 0, k) == x.item(0, k);
-                }
-                if (fits) {
-                    many++;
-                    least = p;
-                }
-            }
-            x.set(part, 2, phase);
-            Check.due("there are some", many > 0 ? 1 : 0, 1);
-            refoundIs(x, part, 50, 200, many, least);
         }
+    }
+
+    /** The first highs as they are, and then all phases tried one by one. */
+    private static void refoundByHand(TideWheels x, int part, int f, int n, int told) {
+        x.sheet(0, 0, told);
+        for (int k = 0; k < told; k++) {
+            x.put(0, k, x.water(f, n, 0, k));
+        }
+        int many = 0;
+        int least = NONE;
+        for (int p = 1023; p >= 0; p--) {
+            x.set(part, 2, p);
+            boolean fits = true;
+            for (int k = 0; k < told && fits; k++) {
+                int high = x.water(f, n, 0, k);
+                fits = high != NONE && high == x.item(0, k);
+            }
+            if (fits) {
+                many++;
+                least = p;
+            }
+        }
+        x.back();
+        refoundIs(x, part, f, n, many, least);
     }
 
     private static void refoundRefused() {

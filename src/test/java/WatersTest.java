@@ -121,6 +121,8 @@ final class WatersTest {
         }
         Check.due("no such high", x.water(0, 2000, 0, 125), NONE);
         Check.due("no such high", x.water(0, 4, 0, 0), NONE);
+        Check.due("no such high", x.water(0, 1, 0, 0), NONE);
+        Check.due("no such low", x.water(99999, 1, 1, 0), NONE);
         Check.due("the high at the end", x.water(0, 5, 0, 0), 4);
         Check.due("no such high", x.water(0, 2000, 0, Integer.MAX_VALUE), NONE);
         Check.due("no parts", new TideWheels().water(0, 2000, 1, 0), NONE);
