@@ -14,6 +14,9 @@ public final class AllTests {
         FaceTest.all();
         LanguageTest.all(args.length > 0 ? args[0] : "src/main/java/TideWheels.java");
         RandomRunsTest.all();
+        PartsEdges.all();
+        TurningEdges.all();
+        WatersEdges.all();
         if (!Check.end()) {
             System.exit(1);
         }
