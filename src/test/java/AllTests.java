@@ -17,6 +17,9 @@ public final class AllTests {
         PartsEdges.all();
         TurningEdges.all();
         WatersEdges.all();
+        ToldEdges.all();
+        GearsEdges.all();
+        LotEdges.all();
         if (!Check.end()) {
             System.exit(1);
         }
