@@ -20,6 +20,9 @@ public final class AllTests {
         ToldEdges.all();
         GearsEdges.all();
         LotEdges.all();
+        TextsEdges.all();
+        HostEdges.all();
+        Edge.allCovered();
         if (!Check.end()) {
             System.exit(1);
         }
