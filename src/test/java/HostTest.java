@@ -157,12 +157,18 @@ final class HostTest {
         Check.due("load of ints", x.load(0, 1, 0, 1), 1);
     }
 
-    private static void loadOutside() {
+    private static TideWheels elevenItems() {
         TideWheels x = new TideWheels();
         sheetOf(x, 0, 1, 0, 0, 0, 0, 1, 1, 1, 1, 2, 2, 2);
+        return x;
+    }
+
+    private static void loadOutside() {
         for (int from : new int[] {-1, -4, 8, 11, 12, Integer.MIN_VALUE, Integer.MAX_VALUE, Integer.MAX_VALUE - 3}) {
-            Check.refused("load from " + from, x, () -> x.load(0, 1, from, 1), OUTSIDE);
+            TideWheels y = elevenItems();
+            Check.refused("load from " + from, y, () -> y.load(0, 1, from, 1), OUTSIDE);
         }
+        TideWheels x = elevenItems();
         Check.due("load from 7", x.load(0, 1, 7, 1), 1);
         x.drop();
         Check.due("what stood ahead came", x.load(0, 1, 0, 3), OUTSIDE);
@@ -209,8 +215,8 @@ final class HostTest {
     }
 
     private static void sheet() {
-        TideWheels x = new TideWheels();
         for (int sheet = 0; sheet < 4; sheet++) {
+            TideWheels x = new TideWheels();
             for (int sort = 0; sort < 2; sort++) {
                 Check.due("sheet of none", x.sheet(sheet, sort, 0), 1);
                 Check.due("it isn't missing", x.put(sheet, 0, 1), OUTSIDE);
@@ -307,10 +313,6 @@ final class HostTest {
     }
 
     private static void copyRefused() {
-        TideWheels x = new TideWheels();
-        sheetOf(x, 0, 0, 1, 2, 3, 4);
-        sheetOf(x, 1, 0, 5, 6, 7);
-        sheetOf(x, 2, 1, 8, 9);
         int max = Integer.MAX_VALUE;
         int min = Integer.MIN_VALUE;
         int[][] calls = {
@@ -324,6 +326,10 @@ final class HostTest {
             {0, 0, 1, max, max, OUTSIDE}, {0, 0, 1, 0, min, OUTSIDE}, {0, max, 1, max, max, OUTSIDE},
         };
         for (int[] c : calls) {
+            TideWheels x = new TideWheels();
+            sheetOf(x, 0, 0, 1, 2, 3, 4);
+            sheetOf(x, 1, 0, 5, 6, 7);
+            sheetOf(x, 2, 1, 8, 9);
             Check.refused("copy", x, () -> x.copy(c[0], c[1], c[2], c[3], c[4]), c[5]);
         }
     }

@@ -40,8 +40,8 @@ final class LotTest {
     }
 
     private static void drawn() {
-        TideWheels x = parts();
         for (int seed : new int[] {0, 1, 7, -1, 123456789, Integer.MAX_VALUE, Integer.MIN_VALUE}) {
+            TideWheels x = parts();
             for (int t : new int[] {0, 1, 50, 777, 99999}) {
                 long due = byHand(x, seed, t);
                 Check.refused("drawn(" + seed + ", " + t + ")", x, () -> x.drawn(seed, t), due);
@@ -65,7 +65,8 @@ final class LotTest {
         return b == 0 ? a : divisor(b, a % b);
     }
 
-    private static void chanceIs(TideWheels x, int seed, int m, int t, int w) {
+    private static void chanceIs(int seed, int m, int t, int w) {
+        TideWheels x = parts();
         int high = 0;
         for (int i = 0; i < m; i++) {
             if (byHand(x, seed + i, t) >= w) {
@@ -77,15 +78,15 @@ final class LotTest {
         int above = high / d;
         int below = m / d;
         Check.refused(call + ", 0)", x, () -> x.chance(seed, m, t, w, 0), above);
-        Check.refused(call + ", 1)", x, () -> x.chance(seed, m, t, w, 1), below);
+        Check.due(call + ", 1)", x.chance(seed, m, t, w, 1), below);
     }
 
     private static void chance() {
         TideWheels x = parts();
         for (int m : new int[] {1, 2, 6, 12, 20}) {
             for (int w : new int[] {0, -20000000, 10000000, Integer.MIN_VALUE, Integer.MAX_VALUE}) {
-                chanceIs(x, 7, m, 50, w);
-                chanceIs(x, -m / 2, m, 99999, w);
+                chanceIs(7, m, 50, w);
+                chanceIs(-m / 2, m, 99999, w);
             }
         }
         int just = (int) x.drawn(3, 9);
@@ -98,18 +99,17 @@ final class LotTest {
     }
 
     private static void chanceWraps() {
-        TideWheels x = parts();
-        chanceIs(x, Integer.MAX_VALUE - 3, 20, 50, 0);
-        chanceIs(x, Integer.MAX_VALUE, 7, 50, 1000000);
+        chanceIs(Integer.MAX_VALUE - 3, 20, 50, 0);
+        chanceIs(Integer.MAX_VALUE, 7, 50, 1000000);
     }
 
     private static void chanceRefused() {
-        TideWheels x = parts();
         int[][] bad = {
             {1, 0, 5, 0, 0}, {1, -1, 5, 0, 0}, {1, 21, 5, 0, 0}, {1, 3, -1, 0, 0}, {1, 3, 100000, 0, 0},
             {1, 3, 5, 0, -1}, {1, 3, 5, 0, 2}, {1, Integer.MIN_VALUE, 5, 0, 0},
         };
         for (int[] b : bad) {
+            TideWheels x = parts();
             Check.refused("chance, bad", x, () -> x.chance(b[0], b[1], b[2], b[3], b[4]), BAD);
         }
     }

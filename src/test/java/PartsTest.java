@@ -165,10 +165,11 @@ final class PartsTest {
         int[] most = {9, 999, 1023};
         for (int what = 0; what < 3; what++) {
             int w = what;
-            Check.refused("set below", x, () -> x.set(0, w, -1), BAD);
-            Check.refused("set above", x, () -> x.set(0, w, most[w] + 1), BAD);
-            Check.refused("set of no part", x, () -> x.set(1, w, 0), BAD);
-            Check.refused("set of no part", x, () -> x.set(-1, w, 0), BAD);
+            TideWheels y = one(1, 2, 3, 4);
+            Check.refused("set below", y, () -> y.set(0, w, -1), BAD);
+            Check.refused("set above", y, () -> y.set(0, w, most[w] + 1), BAD);
+            Check.refused("set of no part", y, () -> y.set(1, w, 0), BAD);
+            Check.refused("set of no part", y, () -> y.set(-1, w, 0), BAD);
             Check.due("set to the most", x.set(0, what, most[what]), what + 2);
             Check.due("set to the least", x.set(0, what, 0), most[what]);
             Check.due("set", x.set(0, what, what + 5), 0);

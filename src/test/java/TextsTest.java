@@ -52,13 +52,19 @@ final class TextsTest {
         Check.due("the shaft", y.count(5), 123);
     }
 
-    private static void feedRefused() {
+    private static TideWheels fed() {
         TideWheels x = new TideWheels();
         x.feed(3, 1, 2, 3, 0, 0);
+        return x;
+    }
+
+    private static void feedRefused() {
         for (int n : new int[] {0, 6, -1, Integer.MIN_VALUE, Integer.MAX_VALUE}) {
+            TideWheels x = fed();
             Check.refused("feed of " + n, x, () -> x.feed(n, 0, 0, 0, 0, 0), BAD);
         }
         for (int v : new int[] {-1, 256, Integer.MIN_VALUE, Integer.MAX_VALUE}) {
+            TideWheels x = fed();
             Check.refused("a", x, () -> x.feed(1, v, 0, 0, 0, 0), BAD);
             Check.refused("b", x, () -> x.feed(1, 0, v, 0, 0, 0), BAD);
             Check.refused("c", x, () -> x.feed(1, 0, 0, v, 0, 0), BAD);

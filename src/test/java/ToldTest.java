@@ -33,8 +33,7 @@ final class ToldTest {
 
     private static void tellsAre(TideWheels x, int f, int... due) {
         for (int what = 0; what < 4; what++) {
-            int w = what;
-            Check.refused("tells(0, " + f + ", " + what + ")", x, () -> x.tells(0, f, w), due[what]);
+            Check.due("tells(0, " + f + ", " + what + ")", x.tells(0, f, what), due[what]);
         }
     }
 
@@ -164,15 +163,15 @@ final class ToldTest {
     }
 
     private static void tellsRefused() {
-        TideWheels x = three();
-        x.film(0, 0, 9);
-        x.film(1, 0, 8);
         int[][] calls = {
             {-1, 0, 0, BAD}, {4, 0, 0, BAD}, {1, -1, 0, BAD}, {1, 100000, 0, BAD}, {1, 0, -1, BAD}, {1, 0, 4, BAD},
             {2, 0, 0, -11}, {2, -1, 0, BAD}, {2, 0, 4, BAD}, {0, 0, 0, BAD}, {0, 0, 3, BAD}, {1, 0, 0, NONE},
             {Integer.MIN_VALUE, 0, 0, BAD}, {1, Integer.MAX_VALUE, 0, BAD},
         };
         for (int[] c : calls) {
+            TideWheels x = three();
+            x.film(0, 0, 9);
+            x.film(1, 0, 8);
             Check.refused("tells", x, () -> x.tells(c[0], c[1], c[2]), c[3]);
         }
     }
@@ -185,8 +184,8 @@ final class ToldTest {
     }
 
     private static void refoundIs(TideWheels x, int part, int f, int n, int many, int least) {
-        Check.refused("refound, many", x, () -> x.refound(0, part, f, n, 0), many);
-        Check.refused("refound, least", x, () -> x.refound(0, part, f, n, 1), least);
+        Check.due("refound, many", x.refound(0, part, f, n, 0), many);
+        Check.due("refound, least", x.refound(0, part, f, n, 1), least);
     }
 
     private static void refound() {
@@ -258,48 +257,50 @@ final class ToldTest {
         int third = x.water(400, 200, 0, 2);
         Check.due("few enough to tell all of them", x.waters(third - 199, 200, 0) <= 8 ? 1 : 0, 1);
         for (int part = 0; part < 3; part++) {
-            x.image();
-            refoundByHand(x, part, 400, 200);
+            refoundByHand(part, 400, 200);
             // The latest of those told is at the last tick of all, or the first one right behind f.
-            refoundByHand(x, part, third - 199, 200);
-            refoundByHand(x, part, 400, third - 400 + 1);
-            refoundByHand(x, part, third - 3, 4);
-            refoundByHand(x, part, third - 1, 30);
+            refoundByHand(part, third - 199, 200);
+            refoundByHand(part, 400, third - 400 + 1);
+            refoundByHand(part, third - 3, 4);
+            refoundByHand(part, third - 1, 30);
             for (int n = 2; n < 24; n++) {
-                refoundByHand(x, part, 100 + 7 * n, n);
+                refoundByHand(part, 100 + 7 * n, n);
             }
         }
     }
 
     /** Tells the highs as they are, and then tries all phases one by one. */
-    private static void refoundByHand(TideWheels x, int part, int f, int n) {
+    private static void refoundByHand(int part, int f, int n) {
+        TideWheels x = three();
         int told = Math.min(8, x.waters(f, n, 0));
+        int[] highs = new int[told];
         x.sheet(0, 0, told);
         for (int k = 0; k < told; k++) {
-            x.put(0, k, x.water(f, n, 0, k));
+            highs[k] = x.water(f, n, 0, k);
+            x.put(0, k, highs[k]);
         }
         int many = 0;
         int least = NONE;
+        TideWheels tried = three();
         for (int p = 1023; p >= 0; p--) {
-            x.set(part, 2, p);
+            if (p % 32 == 0) {
+                tried = three();
+            }
+            tried.set(part, 2, p);
             boolean fits = true;
             for (int k = 0; k < told && fits; k++) {
-                int high = x.water(f, n, 0, k);
-                fits = high != NONE && high == x.item(0, k);
+                int high = tried.water(f, n, 0, k);
+                fits = high != NONE && high == highs[k];
             }
             if (fits) {
                 many++;
                 least = p;
             }
         }
-        x.back();
         refoundIs(x, part, f, n, many, least);
     }
 
     private static void refoundRefused() {
-        TideWheels x = three();
-        x.sheet(0, 0, 9);
-        x.sheet(1, 0, 8);
         int[][] calls = {
             {-1, 0, 0, 5, 0, BAD}, {4, 0, 0, 5, 0, BAD}, {1, 3, 0, 5, 0, BAD}, {1, -1, 0, 5, 0, BAD},
             {1, 0, -1, 5, 0, BAD}, {1, 0, 100000, 5, 0, BAD}, {1, 0, 0, 0, 0, BAD}, {1, 0, 0, 201, 0, BAD},
@@ -308,6 +309,9 @@ final class ToldTest {
             {1, 0, 0, 200, 0, 0}, {1, 2, 99999, 1, 1, NONE},
         };
         for (int[] c : calls) {
+            TideWheels x = three();
+            x.sheet(0, 0, 9);
+            x.sheet(1, 0, 8);
             Check.refused("refound", x, () -> x.refound(c[0], c[1], c[2], c[3], c[4]), c[5]);
         }
     }
@@ -338,13 +342,13 @@ final class ToldTest {
     }
 
     private static void filmRefused() {
-        TideWheels x = three();
-        x.sheet(1, 1, 3);
         int[][] bad = {
             {-1, 0, 1}, {4, 0, 1}, {1, -1, 1}, {1, 100000, 0}, {1, 0, -1}, {1, 0, 41},
             {1, 0, Integer.MIN_VALUE}, {1, Integer.MAX_VALUE, 1}, {2, 0, 41},
         };
         for (int[] b : bad) {
+            TideWheels x = three();
+            x.sheet(1, 1, 3);
             Check.refused("film, bad", x, () -> x.film(b[0], b[1], b[2]), BAD);
         }
     }
