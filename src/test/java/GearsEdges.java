@@ -31,7 +31,8 @@ final class GearsEdges extends Edge {
         nearestIs("23: more than 6 times doesn't", 49, 8, 48008, 8, 49, 8048, 200, 33, 48008, 33, 200, 8048);
         nearestIs("23: TEETH of 300 together FIT", 199, 101, 199101, 101, 199, 101199, 151, 149, 151149);
         nearestIs("23: TEETH of 301 together don't", 200, 101, 101051, 101, 200, 51101, 151, 150, 150149);
-        nearestIs("23: TEETH of 200 come", 200, 34, 100017, 355, 113, 179057);
+        nearestIs("23: TEETH of 200 come", 200, 99, 200099, 99, 200, 99200, 200, 37, 200037, 37, 200, 37200);
+        nearestIs("23: TEETH of 201 don't, though they are nearer", 201, 34, 136023, 34, 201, 23136);
         nearestIs("23: TEETH fewer than 8 don't, so their like is found", 7, 8, 14016, 8, 7, 16014, 1, 2, 8016, 7, 7, 8008);
         nearestIs("23: of like ones the least a", 100, 200, 8016, 200, 100, 16008, 3, 2, 12008);
         // 68 by 14 and its likes are as much above it as 175 by 36 is below it.

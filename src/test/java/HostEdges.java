@@ -88,6 +88,21 @@ final class HostEdges extends Edge {
             due(x.speed(0, 0), 245);
             due(x.speed(0, 1), 32);
         });
+        edge("31: back gives the TEETH again, where others stand by then", GEARED, x -> {
+            x.image();
+            int[] kept = {20, 50, 70, 40, 60, 80};
+            for (int pair = 0; pair < 3; pair++) {
+                x.ungear(0);
+            }
+            for (int pair = 0; pair < 3; pair++) {
+                x.gear(0, 101 + pair, 111 + pair);
+            }
+            x.back();
+            for (int pair = 0; pair < 3; pair++) {
+                due(x.of(0, 10 + pair), kept[pair]);
+                due(x.of(0, 20 + pair), kept[3 + pair]);
+            }
+        });
         edge("31: SHEETS aren't kept: they stay as they are", x -> {
             x.sheet(0, 0, 2);
             x.put(0, 0, 5);
@@ -205,6 +220,16 @@ final class HostEdges extends Edge {
             due(x.of(0, 1), 9);
             due(x.of(0, 2), 999);
             due(x.of(0, 3), 1023);
+        });
+        edge("32: all 32 of them", x -> {
+            rowOf(x, 0, 1, 65536 + 1, 0, 0, 0, 0, 65536 + 1, 0, 0, 0, 0, 65536 + 1, 0, 0, 0, 0, 65536 + 1);
+            due(x.load(0, 1, 0, 4), 0);
+            x.sheet(1, 0, 16);
+            for (int i = 0; i < 16; i++) {
+                x.put(1, i, x.item(0, i));
+            }
+            due(x.load(1, 0, 0, 4), 0);
+            due(x.count(0), 0);
         });
         edge("32: of which some are below 0, so that it is left out", x -> {
             rowOf(x, 0, 0, 0, 0, 0, (1L << 32) - 1, 0, 0, 0, 1L << 31);

@@ -124,6 +124,16 @@ final class TextsEdges extends Edge {
             "shaft 1;partgear 0", 8, "a 1", 0);
         faults("29: NUMBERS are as long as can be", "gear 0 88", 9, "phase 01", 8, "part 0000", 9);
         faults("29: a WORD that is none of these", "set 0 0 0", 0, "shaft 1;kind 0 1", 8, "drop", 0, "turn 1", 0);
+        edge("29: a WORD with one letter unlike is none of these", x -> {
+            String[] words = {"part", "gear", "shaft", "phase", "amp"};
+            for (String word : words) {
+                for (int i = 0; i < word.length(); i++) {
+                    TideWheels y = new TideWheels();
+                    TextsTest.feed(y, word.substring(0, i) + "z" + word.substring(i + 1) + " 1 2 3 4");
+                    due(word + ", letter " + i, y.text(), -100);
+                }
+            }
+        });
         faults("29: a letter that is no a .. z makes no WORD", "Shaft 1", 0, "SHAFT 1", 0, "shafT 1", 0, "shaft A", 6);
         texts("29: a NUMBER of 4 digits is not too long", NEW, "shaft 0999", 1, "shaft 0001", 1, "shaft 9999", 0,
             "part 0000 0000 0000 0000", 1);

@@ -399,6 +399,28 @@ final class ToldEdges extends Edge {
             sheetOf(x, 0, 0, 257);
             refoundIs(x, 58, 200, 1, 1023);
         });
+        edge("21: the other PARTS' heights count, that of TICK f + n, too", TIDE, x -> {
+            // It stands high above the one in thought.
+            x.part(0, 0, 999, 256);
+            x.gear(1, 200, 200);
+            sheetOf(x, 0, 0, 4);
+            refoundIs(x, 0, 5, 64, 0);
+            refoundIs(x, 0, 4, 0, NONE);
+            x.put(0, 0, 3);
+            refoundIs(x, 0, 4, 64, 32 + 1);
+        });
+        edge("21: the other PARTS' heights count, that of f itself, too", x -> {
+            x.part(0, 0, 1, 0);
+            // It is highest at TICK 1, whatever the one in thought adds to it.
+            x.part(0, 0, 999, 192);
+            sheetOf(x, 0, 0, 1);
+            refoundIs(x, 0, 2, 1024, 0);
+            refoundIs(x, 0, 200, 1024, 0);
+            refoundIs(x, 1, 2, 0, NONE);
+            x.set(1, 1, 1);
+            x.sheet(0, 0, 0);
+            refoundIs(x, 1, 200, 1024, 0);
+        });
         edge("21: of an AMP of 0 no PHASE has HIGHS", TIDE, x -> {
             x.set(0, 1, 0);
             sheetOf(x, 0, 0, 4);
