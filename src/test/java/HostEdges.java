@@ -304,7 +304,8 @@ final class HostEdges extends Edge {
         refuses("32: -13: longs taken for ints, ints for longs", RICH, OTHER, x -> x.load(0, 1, 0, 1),
             x -> x.load(1, 0, 0, 1), x -> x.load(3, 1, 0, 0));
         refuses("32: -13 is ahead of -12", RICH, OTHER, x -> x.load(0, 1, -1, 1), x -> x.load(1, 0, 40, 6));
-        refuses("32: -11: it is missing, for both sorts", RICH, MISSING, x -> x.load(2, 0, 0, 1), x -> x.load(2, 1, 0, 1));
+        refuses("32: -11: it is missing, for both sorts", RICH, MISSING, x -> x.load(2, 0, 0, 1), x -> x.load(2, 1, 0, 1),
+            x -> x.load(2, 0, 0, 0), x -> x.load(2, 1, 0, 0));
         refuses("32: -11 is ahead of -12", RICH, MISSING, x -> x.load(2, 0, -1, 1), x -> x.load(2, 1, MOST, 6));
         refuses("32: BAD is ahead of -13 and -11", RICH, BAD, x -> x.load(0, 1, 0, 7), x -> x.load(2, 0, 0, 7),
             x -> x.load(2, 2, 0, 1), x -> x.load(1, 0, 0, -1));

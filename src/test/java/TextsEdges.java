@@ -152,7 +152,7 @@ final class TextsEdges extends Edge {
     }
 
     private static void strays() {
-        for (int v : new int[] {0, 9, 11, 13, 31, 33, 47, 58, 60, 96, 123, 127, 128, 255}) {
+        for (int v : new int[] {0, 9, 11, 13, 31, 33, 47, 58, 60, 64, 65, 90, 91, 96, 123, 127, 128, 255}) {
             String stray = "" + (char) v;
             faults("29: the byte " + v + " begins no TOKEN", stray, 0, stray + "shaft 1", 0, "shaft" + stray + "1", 5,
                 "shaft 1" + stray, 7, "shaft 1 " + stray, 8, "shaft 1;" + stray + "shaft 2", 8, "sha" + stray + "ft 1", 0);

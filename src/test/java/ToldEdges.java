@@ -266,6 +266,18 @@ final class ToldEdges extends Edge {
             due(x.tells(1, 0, 1), 40);
             due(x.tells(0, 0, 1), 1024);
         });
+        edge("20: WRONG from TICK 99999 on, with other PARTS' heights beyond it", TIDE, x -> {
+            x.part(0, 0, 500, 100);
+            x.film(0, 99999, 8);
+            x.set(0, 2, 1023);
+            due(x.tells(0, 99999, 1), 0);
+            x.set(0, 2, 0);
+            x.set(0, 1, 999);
+            due(x.tells(0, 99999, 2), 3);
+            x.set(0, 1, 3);
+            x.set(1, 2, 0);
+            due(x.tells(0, 99999, 1), 1024 + 100);
+        });
         edge("20: WRONG from TICK 99999 on", TIDE, x -> {
             x.film(0, 99999, 8);
             due(x.tells(0, 99999, 1), 0);
@@ -352,6 +364,13 @@ final class ToldEdges extends Edge {
             refoundIs(x, 99999, 200, 64, 0);
             refoundIs(x, 99999, 22, 64, 0);
             refoundIs(x, 99999, 21, 0, NONE);
+        });
+        edge("21: from TICK 99999 on, with other PARTS' heights beyond it", TIDE, x -> {
+            // It is highest at 100004 and 16 behind that, whatever the one in thought adds to it.
+            x.part(0, 0, 999, 0);
+            x.set(0, 1, 1);
+            sheetOf(x, 0, 0, 100004, 100020);
+            refoundIs(x, 99999, 200, 1024, 0);
         });
     }
 
