@@ -1,4 +1,4 @@
-/** Runs all tests of the project; its argument is the path of the source that they are about. */
+/** Runs all tests of the project; its arguments are the paths of the source that they are about, and of its page. */
 public final class AllTests {
     private AllTests() { }
 
@@ -12,7 +12,10 @@ public final class AllTests {
         TextsTest.all();
         HostTest.all();
         FaceTest.all();
-        LanguageTest.all(args.length > 0 ? args[0] : "src/main/java/TideWheels.java");
+        String source = args.length > 0 ? args[0] : "src/main/java/TideWheels.java";
+        LanguageTest.all(source);
+        CallsTest.all(source);
+        ReadmeTest.all(args.length > 1 ? args[1] : "README.md");
         RandomRunsTest.all();
         PartsEdges.all();
         TurningEdges.all();
